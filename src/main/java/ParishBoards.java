@@ -595,9 +595,8 @@ public final class ParishBoards {
         private final Tokens tokens;
         private Plan plan;
         private int at = 0;
-        // The kind of the token there; behind a misfit one that is never taken, so that nothing goes on.
+        // The kind of the token there; WRONG as soon as it doesn't fit, so that nothing more is taken.
         private Kind next = Kind.WRONG;
-        private boolean stopped = false;
 
         Grammar(Tokens read, Plan filled) {
             tokens = read;
@@ -609,13 +608,11 @@ public final class ParishBoards {
             plan = filled;
             at = 0;
             next = tokens.kindAt(0);
-            stopped = false;
-            for (int lines = 0; lines < MOST_TOKENS && next != Kind.TAPE_END && !stopped; lines++) {
+            for (int i = 0; i < MOST_TOKENS && next != Kind.TAPE_END && next != Kind.WRONG; i++) {
                 line();
                 take(Kind.LINE_END);
             }
-            take(Kind.TAPE_END);
-            return stopped ? at : NONE;
+            return next == Kind.TAPE_END ? NONE : at;
         }
 
         private void line() {
@@ -635,7 +632,7 @@ public final class ParishBoards {
                     orderLine(plan.nextOrder());
                     break;
                 default:
-                    stop();
+                    next = Kind.WRONG;
                     break;
             }
         }
@@ -748,7 +745,7 @@ public final class ParishBoards {
                     take(next);
                     break;
                 default:
-                    stop();
+                    next = Kind.WRONG;
                     break;
             }
         }
@@ -806,7 +803,7 @@ public final class ParishBoards {
                     plan.code.add(first, NONE);
                     break;
                 default:
-                    stop();
+                    next = Kind.WRONG;
                     break;
             }
         }
@@ -830,28 +827,19 @@ public final class ParishBoards {
             }
         }
 
-        /** Takes the token behind which the depth is greater; stops at it if that would be too deep. */
+        /** Takes the token behind which the depth is greater, unless it would be too great there. */
         private boolean goesDeeper(Kind wanted, int depth) {
-            if (depth >= MOST_DEPTH) {
-                stop();
-            } else {
-                take(wanted);
-            }
-            return !stopped;
+            take(depth < MOST_DEPTH ? wanted : Kind.WRONG);
+            return next != Kind.WRONG;
         }
 
         private void take(Kind wanted) {
-            if (stopped || next != wanted) {
-                stop();
-            } else {
+            if (next == wanted && next != Kind.WRONG) {
                 at++;
                 next = at < tokens.size ? tokens.kinds[at] : Kind.WRONG;
+            } else {
+                next = Kind.WRONG;
             }
-        }
-
-        private void stop() {
-            stopped = true;
-            next = Kind.WRONG;
         }
     }
 

@@ -15,6 +15,10 @@ public final class BoardsTest {
         hangingTakesDownWhatIsAhead();
         dropped();
         roads();
+        atTheFirstParish();
+        waitingAsAllBeginsAnew();
+        asMuchAsCanBe();
+        waitingWithAllSheets();
         CHECK.end("BoardsTest");
     }
 
@@ -346,5 +350,110 @@ public final class BoardsTest {
         CHECK.is("nothing is sent twice on a road", boards.send(2), 0);
         road(boards, 2, 0, 2, 1, 0, 2);
         CHECK.is("but on another one", boards.send(0), 3);
+    }
+
+    private static void atTheFirstParish() {
+        ParishBoards boards = Check.taught("parish a;parish b;notice n;road ba from b to a days 9;");
+        boards.write(0, 0, 1);
+        boards.write(1, 0, 2);
+        boards.send(0);
+        boards.setDays(0, 1);
+        boards.write(1, 0, 3);
+        boards.send(0);
+        boards.pass(2);
+        CHECK.is("waits at the first", boards.count(7), 1);
+        boards.pass(8);
+        CHECK.is("torn at the first", boards.count(8), 1);
+        shown(boards, 0, 0, 0, 2);
+    }
+
+    private static void waitingAsAllBeginsAnew() {
+        ParishBoards boards = new ParishBoards();
+        for (int time = 0; time < 3; time++) {
+            Check.teach(boards, THREE);
+            CHECK.is("none waits anew", boards.count(7), 0);
+            boards.setDays(0, 9);
+            boards.write(0, 0, 1);
+            boards.send(0);
+            boards.setDays(0, 1);
+            boards.write(0, 0, 2);
+            boards.send(0);
+            boards.pass(3);
+            parish(boards, 1, 0, 1, 0, 0, 0, 1);
+            CHECK.is("foreseen to be hung", boards.foresee(9, 9), 2);
+            if (time < 2) {
+                continue;
+            }
+            CHECK.is("hung", boards.pass(9), 2);
+        }
+    }
+
+    /** Five parishes in a ring, six notices, eight roads, sixty sheets. */
+    private static void asMuchAsCanBe() {
+        StringBuilder text = new StringBuilder();
+        for (int p = 0; p < 5; p++) {
+            text.append("parish p").append(p).append(";");
+        }
+        for (int n = 0; n < 6; n++) {
+            text.append("notice n").append(n).append(";");
+        }
+        for (int r = 0; r < 8; r++) {
+            text.append("road r").append(r).append(" from p").append(r % 5).append(" to p").append((r + 1 + r / 5) % 5)
+                    .append(" days 1;send r").append(r).append(";");
+        }
+        ParishBoards boards = Check.taught(text.toString());
+        for (int s = 0; s < 30; s++) {
+            boards.write(s % 5, s / 5, s);
+        }
+        knows(boards, 4, 0, 0, 0, 0, 6);
+        CHECK.is("foreseen to be torn", boards.foresee(20, 8), 30);
+        CHECK.is("by two roads of a day each", boards.until(4, 0), 4);
+        CHECK.is("by one road", boards.until(0, 29), 2);
+        CHECK.is("advice", boards.advise(30), -1);
+        CHECK.is("each is hung at four", boards.pass(30), 120);
+        CHECK.is("advice with nothing to send", boards.advise(30), -1);
+        CHECK.holds("all are alike", boards.alike());
+        for (int p = 0; p < 5; p++) {
+            parish(boards, p, 30, 0, 6, 6, 6, p < 3 ? 2 : 1);
+            for (int n = 0; n < 6; n++) {
+                shown(boards, p, n, 5 * n, 5 * n + 1, 5 * n + 2, 5 * n + 3, 5 * n + 4);
+            }
+        }
+        for (int s = 30; s < 60; s++) {
+            CHECK.is("merged " + s, boards.merge(s % 5, s / 5 - 6, 1), s);
+            CHECK.is("the most of them", boards.sheet(s, 2), s / 5 * 5 - 26);
+        }
+        sheet(boards, 29, 4, 5, 29, 0, 0, 0, 5, 0);
+        CHECK.is("the first that is missed", boards.missed(), 30);
+        long before = boards.digest();
+        CHECK.is("foreseen to be hung", boards.foresee(30, 9), 240);
+        CHECK.is("the last one known at the first", boards.until(0, 59), 2);
+        CHECK.is("a road that brings more in a day", boards.advise(1), -1);
+        CHECK.is("nothing is changed", boards.digest(), before);
+        CHECK.is("each of them is hung at four", boards.pass(30), 120);
+        counted(boards, 60, 5, 6, 8, 8, 60, 0, 0, 30, 240, 30, boards.count(11), 0);
+        sheet(boards, 59, 4, 5, 29, 0, 30, 2, 5, 5);
+        stamp(boards, 59, 6, 6, 6, 6, 12);
+        knows(boards, 0, 12, 12, 12, 12, 12);
+        shown(boards, 2, 5, 55, 56, 57, 58, 59);
+        CHECK.is("none is missed", boards.missed(), -1);
+        CHECK.holds("all are alike again", boards.alike());
+    }
+
+    private static void waitingWithAllSheets() {
+        ParishBoards boards = Check.taught(THREE);
+        boards.setDays(0, 9);
+        boards.write(0, 0, 0);
+        boards.send(0);
+        boards.setDays(0, 1);
+        for (int s = 1; s < 60; s++) {
+            boards.write(0, s % 2, s);
+        }
+        CHECK.is("the other ones", boards.send(0), 59);
+        boards.pass(3);
+        parish(boards, 1, 0, 59, 0, 0, 0, 1);
+        CHECK.is("all are hung at once", boards.pass(9), 60);
+        shown(boards, 1, 0, 58);
+        shown(boards, 1, 1, 59);
     }
 }

@@ -317,6 +317,16 @@ public final class DaysTest {
         CHECK.is("hung by day 4", boards.foresee(4, 9), 2);
         CHECK.is("60 days", boards.foresee(60, 9), 3);
         CHECK.is("foreseeing changes nothing", boards.digest(), before);
+        ParishBoards made = Check.taught(TWO + "write a m as 1 when value b n = 9 and marks b n = 2 and day = 2;");
+        made.write(0, 0, 4);
+        made.note(0, 0, 1);
+        made.write(1, 0, 5);
+        made.note(1, 0, 2);
+        made.send(0);
+        made.pass(2);
+        made.merge(1, 0, 2);
+        CHECK.is("merged sheets stay so", made.foresee(1, 10), 1);
+        CHECK.is("values and marks stay", made.foresee(1, 11), 1);
         boards.setDays(0, 9);
         CHECK.is("with the days of now", boards.foresee(4, 9), 1);
         boards.setDays(0, 1);

@@ -107,6 +107,14 @@ public final class HandTest {
             CHECK.is("no longer torn", boards.count(8), 0);
             CHECK.is("merged sheets", boards.count(10), 1);
         }
+        for (int way = 0; way <= 2; way++) {
+            ParishBoards zero = torn(0, 0);
+            zero.merge(1, 0, way);
+            CHECK.is("zeros merged by " + way, zero.sheet(4, 2), 0);
+            ParishBoards nines = torn(9999, 9999);
+            nines.merge(1, 0, way);
+            CHECK.is("9999 merged by " + way, nines.sheet(4, 2), 9999);
+        }
         ParishBoards much = torn(5000, 4999, 0);
         much.merge(2, 0, 2);
         CHECK.is("sum up to 9999", much.sheet(6, 2), 9999);

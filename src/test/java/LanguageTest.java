@@ -18,6 +18,7 @@ public final class LanguageTest {
         roadErrors();
         firstErrorFromTheLeft();
         teaching();
+        teachingOften();
         CHECK.end("LanguageTest");
     }
 
@@ -149,6 +150,9 @@ public final class LanguageTest {
         error(BOARDS + "send r r;", 1, start + 7);
         error(BOARDS + "send when 1=1;", 1, start + 5);
         error(BOARDS + "send r when 1;", 1, start + 13);
+        error(BOARDS + "send r when 1 2;", 1, start + 14);
+        error(BOARDS + "send r when 1 day = 1;", 1, start + 14);
+        error(BOARDS + "send r when torn a n 1;", 1, start + 21);
         error(BOARDS + "send r when 1=1=1;", 1, start + 15);
         error(BOARDS + "send r when [1]=1;", 1, start + 14);
         error(BOARDS + "send r when (1=1);", 1, start + 14);
@@ -198,6 +202,12 @@ public final class LanguageTest {
         // The depth is 9 behind the ( of min, so that it is told there and not at min.
         error(start + "--------min(1,2) = 1;", 1, at + 11);
         error(start + "[[[[[[[[max(1,2)=1]]]]]]]];", 1, at + 11);
+        fine(start + "min(min(min(min(min(min(min(min(1,2),2),2),2),2),2),2),2) = 1;");
+        fine(start + "min(2,min(2,min(2,min(2,min(2,min(2,min(2,max(2,1)))))))) = 1;");
+        error(start + "min(2,min(2,min(2,min(2,min(2,min(2,min(2,max(2,(1))))))))) = 1;", 1, at + 48);
+        fine(BOARDS + "write a n as ((((((((1)))))))) when 1=1;");
+        fine(BOARDS + "note a n with -------- 1 when 1=1;");
+        error(BOARDS + "write a n as --------- 1 when 1=1;", 1, BOARDS.length() + 21);
         fine(start + "1 = -------- 1 and [ 1 = ------- 1 ];");
         error(start + "[ 1 = -------- 1 ];", 1, at + 13);
         fine(start + "1 - 1 - 1 - 1 - 1 - 1 - 1 - 1 - 1 - 1 = 1 - -------- 1;");
@@ -223,6 +233,14 @@ public final class LanguageTest {
         error("notice a;notice b;notice a;", 2, 25);
         error(BOARDS + "road r from b to a days 1;", 2, BOARDS.length() + 5);
         fine("parish a;notice a;parish b;road a from a to b days 1;");
+        String[][] pairs = {{"a", "aa"}, {"b", "bb"}, {"a", "a0"}, {"z", "z0"}, {"z9", "z"}, {"a1", "b"},
+            {"a9", "aa"}, {"az", "ba"}, {"z0", "za"}, {"aaaaaaaaaa", "baaaaaaaaa"}, {"aaaaaaaaaa", "aaaaaaaaa"},
+            {"zzzzzzzzzz", "zzzzzzzzz9"}, {"day1", "da1"}, {"ab", "ba"}, {"a10", "a01"}, {"c", "b9"}};
+        for (String[] pair : pairs) {
+            fine("notice " + pair[0] + ";notice " + pair[1] + ";");
+            error("notice " + pair[0] + ";notice " + pair[0] + ";", 2, 15 + pair[0].length());
+            error("parish " + pair[0] + ";road r from " + pair[1] + " to x days 1;", 3, 20 + pair[0].length());
+        }
         error("parish a;parish b;parish c;parish d;parish e;parish e;", 2, 52);
         error("notice a;notice b;notice c;notice d;notice e;notice f;notice a;", 2, 61);
         error(roads(8) + "road r0 from a to b days 1;", 2, roads(8).length() + 5);
@@ -333,5 +351,25 @@ public final class LanguageTest {
         Check.put(boards, strange);
         CHECK.is("teach of a strange byte", boards.teach(), 1);
         CHECK.is("its place", boards.errorAt(), 9);
+    }
+
+    /** Nothing of an earlier list is left behind, however often lists are told on one object. */
+    private static void teachingOften() {
+        ParishBoards boards = new ParishBoards();
+        String sum = "1+day*2-min(3,4)+".repeat(4);
+        for (int i = 0; i < 16; i++) {
+            String text = BOARDS + "write a n as " + sum + i + " when " + "1=1 and ".repeat(4) + "day=0;";
+            CHECK.is("teach " + i, Check.teach(boards, text), 0);
+            boards.pass(1);
+            CHECK.is("value of list " + i, boards.sheet(0, 2), Math.max(0, 4 * (1 - 3) + i));
+            CHECK.is("sheets of list " + i, boards.count(5), 1);
+        }
+        for (int i = 0; i < 3; i++) {
+            CHECK.is("twenty orders, time " + i, Check.teach(boards, BOARDS + "send r;".repeat(20)), 0);
+            CHECK.is("orders", boards.count(4), 20);
+        }
+        for (int i = 0; i < 3; i++) {
+            CHECK.is("one order more, time " + i, Check.teach(boards, BOARDS + "send r;".repeat(21)), 4);
+        }
     }
 }
