@@ -1,4 +1,7 @@
+import java.io.IOException;
 import java.nio.charset.StandardCharsets;
+import java.nio.file.Files;
+import java.nio.file.Path;
 
 /** Counts what was checked, and tells what was not as it is due. */
 final class Check {
@@ -6,14 +9,55 @@ final class Check {
         long answer();
     }
 
+    private static final Path DOCUMENT = Path.of("../shared/DOC.md");
+
     private int checked = 0;
     private int wrong = 0;
+    private int checkedAhead = 0;
+    private String sentence = "";
+    private String document = "";
+
+    /** Begins the test of one sentence of the document: its words stand there, and what fails is told with them. */
+    void sentence(String words) {
+        endSentence();
+        sentence = words;
+        checkedAhead = checked;
+        if (document.isEmpty() && Files.isReadable(DOCUMENT)) {
+            document = oneLine(read(DOCUMENT));
+        }
+        if (!document.isEmpty() && !document.contains(oneLine(words))) {
+            fail("the document doesn't say this");
+        }
+    }
+
+    private void endSentence() {
+        if (!sentence.isEmpty() && checked == checkedAhead) {
+            fail("nothing is checked of it");
+        }
+        sentence = "";
+    }
+
+    private static String oneLine(String text) {
+        return text.replaceAll("\\s+", " ");
+    }
+
+    private static String read(Path path) {
+        try {
+            return Files.readString(path, StandardCharsets.UTF_8);
+        } catch (IOException cannot) {
+            throw new IllegalStateException("can't read " + path, cannot);
+        }
+    }
 
     void is(String what, long got, long due) {
         checked++;
         if (got != due) {
             fail(what + " answered " + got + ", due is " + due);
         }
+    }
+
+    void is(String what, boolean got, boolean due) {
+        is(what, got ? 1 : 0, due ? 1 : 0);
     }
 
     void holds(String what, boolean is) {
@@ -50,12 +94,13 @@ final class Check {
     void fail(String message) {
         wrong++;
         if (wrong <= 20) {
-            System.out.println(message);
+            System.out.println(sentence.isEmpty() ? message : "\"" + sentence + "\": " + message);
         }
     }
 
     /** Says how it went and ends the program, with 1 if anything was wrong. */
     void end(String name) {
+        endSentence();
         System.out.println(name + ": " + checked + " checked, " + wrong + " wrong");
         System.exit(wrong == 0 && checked > 0 ? 0 : 1);
     }
